@@ -416,45 +416,46 @@ public final class WaySigns {
 
     /** The set of the fewest places whose signable ones lead to each of the names from first up to end. */
     private int leastSet(int first, int end) {
-        int must = 0;
-        int may = 0;
+        int set = 0;
         for (int n = first; n < end; n++) {
             guide.draw(building, n, homes[n]);
-            if ((entrances & ~guide.signable[n] & ~(1 << homes[n])) != 0) {
+            set |= choicesOnBestWays(n);
+        }
+        for (int n = first; n < end; n++) {
+            if (!wouldLead(set & guide.signable[n], n)) {
                 return NONE;
-            }
-            must |= startsThatNeedBoards(n);
-            may |= guide.signable[n];
-        }
-        for (int size = Integer.bitCount(must); size <= PLACES; size++) {
-            for (int set = 0; set <= ALL_PLACES; set++) {
-                if (Integer.bitCount(set) == size && (must & ~set) == 0 && (set & ~may) == 0
-                        && leadsToEach(set, first, end)) {
-                    return set;
-                }
-            }
-        }
-        return NONE;
-    }
-
-    /** Entrances where one who starts has a choice: no set without them leads, so none is tried. */
-    private int startsThatNeedBoards(int n) {
-        int set = 0;
-        for (int place = 0; place < PLACES; place++) {
-            if (holds(entrances, place) && place != homes[n] && Integer.bitCount(building.near[place]) > 1) {
-                set |= 1 << place;
             }
         }
         return set;
     }
 
-    private boolean leadsToEach(int set, int first, int end) {
-        for (int n = first; n < end; n++) {
-            if (!wouldLead(set & guide.signable[n], n)) {
-                return false;
+    /**
+     * The places where followers of a name who go by best have a choice. No set needs more: who comes to a place by
+     * best has come nearer, so best there is not back, and where he has no choice he goes by best without a board.
+     * And none leads with less: whatever boards there are, he goes by best up to the first choice that lacks one.
+     */
+    private int choicesOnBestWays(int n) {
+        int set = 0;
+        for (int start = 0; start < PLACES; start++) {
+            if (holds(entrances, start)) {
+                set |= choicesFrom(start, n);
             }
         }
-        return true;
+        return set;
+    }
+
+    private int choicesFrom(int start, int n) {
+        int set = 0;
+        int back = 0;
+        int place = start;
+        for (int step = 0; step < PLACES && guide.best[n][place] != NONE; step++) {
+            if (Integer.bitCount(building.near[place] & ~back) > 1) {
+                set |= 1 << place;
+            }
+            back = 1 << place;
+            place = guide.best[n][place];
+        }
+        return set;
     }
 
     /** The walks, and beside them who is next to whom by an open one, as following asks that at each step. */
