@@ -314,11 +314,7 @@ public final class WaySigns {
     private int countBoards() {
         int count = 0;
         for (int n = 0; n < names; n++) {
-            for (int place = 0; place < PLACES; place++) {
-                if (boards[n][place] != NONE) {
-                    count++;
-                }
-            }
+            count += Integer.bitCount(boardedFor(n));
         }
         return count;
     }
@@ -326,10 +322,16 @@ public final class WaySigns {
     private int boardedPlaces() {
         int set = 0;
         for (int n = 0; n < names; n++) {
-            for (int place = 0; place < PLACES; place++) {
-                if (boards[n][place] != NONE) {
-                    set |= 1 << place;
-                }
+            set |= boardedFor(n);
+        }
+        return set;
+    }
+
+    private int boardedFor(int n) {
+        int set = 0;
+        for (int place = 0; place < PLACES; place++) {
+            if (boards[n][place] != NONE) {
+                set |= 1 << place;
             }
         }
         return set;

@@ -486,6 +486,8 @@ public final class PromisesTest {
         ring.walk(3, 0, 1);
         ring.board(0, 0, 2);
         way(ring, 3, 0, 4, 3, 0, 2, 1, 0, 2);
+        due(3, "no walk more", ring.unwalk(), 3);
+        way(ring, 0, 0, 4, 0, 2, 1, 0, 2);
     }
 
     /** To the end of a row, back, and once more on: each walk gone either way. */
@@ -676,6 +678,11 @@ public final class PromisesTest {
         x.entrance(5, true);
         due(20, "one can't come there", x.leads(2, 0), 0);
         due(20, "all places", x.leads(1023, 0), 0);
+        x.moves(0, 6);
+        due(20, "a place that had a best has none", x.leads(2, 0), 0);
+        x.entrance(0, false);
+        x.entrance(3, false);
+        due(20, "a place that had none has a best", x.leads(1 << 5, 0), 1);
         for (int set : new int[] {-1, 1024, LEAST, MOST}) {
             due(20, "no set", x.leads(set, 0), OUTSIDE);
             due(20, "UNKNOWN ahead of OUTSIDE", x.leads(set, 1), UNKNOWN);
@@ -759,8 +766,9 @@ public final class PromisesTest {
         x.board(0, 1, 1);
         x.board(2, 0, 1);
         x.unboard(2, 0);
+        x.board(3, 0, 1);
         x.detour(77);
-        int[] told = {3, 2, 2, 2, 3, 2, 77};
+        int[] told = {3, 2, 2, 2, 4, 3, 77};
         for (int what = 0; what <= 6; what++) {
             due(23, "many(" + what + ")", x.many(what), told[what]);
         }
