@@ -67,9 +67,11 @@ public final class PromisesTest {
         due(15, call + "0)", x.follow(place, n, 0), ending);
         due(15, call + "1)", x.follow(place, n, 1), last);
         due(15, call + "3)", x.follow(place, n, 3), places[last]);
-        for (int k = 0; k <= 40; k++) {
+        // Not each k up to 40: an object is used for at most 512 calls.
+        for (int k = 0; k <= last + 1; k++) {
             due(15, call + (10 + k) + ")", x.follow(place, n, 10 + k), k <= last ? places[k] : NONE);
         }
+        due(15, call + "50)", x.follow(place, n, 50), NONE);
     }
 
     private static void aNewObject() {
