@@ -45,7 +45,6 @@ public final class PromisesTest {
         posts();
         postsOfApart();
         many();
-        readme();
         System.out.println(wrong == 0 ? "all promises hold" : wrong + " answers are not as due");
         if (wrong != 0) {
             System.exit(1);
@@ -777,20 +776,5 @@ public final class PromisesTest {
         for (int what : new int[] {-1, 7, LEAST, MOST}) {
             due(23, "what", x.many(what), OUTSIDE);
         }
-    }
-
-    /** What README.md tells. */
-    private static void readme() {
-        WaySigns signs = new WaySigns();
-        signs.walk(0, 1, 5);
-        signs.walk(1, 2, 3);
-        signs.walk(1, 3, 4);
-        int kiosk = signs.name(2);
-        signs.entrance(0, true);
-        due(15, "readme", signs.follow(0, kiosk, 0), 1);
-        due(19, "readme", signs.mend(0), 1);
-        due(10, "readme", signs.board(1, kiosk, 2), NONE);
-        due(15, "readme", signs.follow(0, kiosk, 0), 0);
-        due(21, "readme", signs.fewest(kiosk), 2);
     }
 }
